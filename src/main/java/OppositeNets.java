@@ -221,6 +221,7 @@ public final class OppositeNets {
             return NOT_NOW;
         }
         street.jumps.keep(jumper, street.nets.knots, net * CORNERS);
+        street.measureLeft();
         int gave = street.fallInto(net, street.forceOf(jumper));
         street.jumps.close(gave);
         return gave == NONE ? 1 : 0;
@@ -971,6 +972,13 @@ public final class OppositeNets {
             int knot = knots[net * CORNERS + corner];
             return isWet == 1 ? knot / 2 : knot;
         }
+
+        void wearDown(int net, int storey) {
+            int wear = wears[net] * storey;
+            for (int i = net * CORNERS; i < net * CORNERS + CORNERS; i++) {
+                knots[i] = Math.max(0, knots[i] - wear);
+            }
+        }
     }
 
     private static final class Jumps {
@@ -1017,6 +1025,7 @@ public final class OppositeNets {
         final Men men = new Men();
         final Nets nets = new Nets();
         final Jumps jumps = new Jumps();
+        final int[] left = new int[MOST_NETS * CORNERS];
 
         void clear() {
             houses = 0;
@@ -1129,8 +1138,8 @@ public final class OppositeNets {
             return a == NONE || b == NONE ? 0 : men.quarrels[a * MOST_OF_A_KIND + b];
         }
 
-        /** HOLD, were the net wet or dry, and were the pairs told by the bits of made at peace. */
-        int holdIf(int net, int corner, int isWet, int made) {
+        /** What a man has left at a corner by his quarrels, but for the pairs told by the bits of made; 0: none holds. */
+        int leftAt(int net, int corner, int made) {
             int who = nets.who[net * CORNERS + corner];
             if (who == NONE || !willHold(who, nets.window[net])) {
                 return 0;
@@ -1143,8 +1152,12 @@ public final class OppositeNets {
             if ((made >> before & 1) == 0) {
                 sum += quarrelBehind(net, before);
             }
-            int left = men.strength[who] - 3 * sum;
-            return Math.max(0, Math.min(left, nets.knotIf(net, corner, isWet)));
+            return Math.max(0, men.strength[who] - 3 * sum);
+        }
+
+        /** HOLD, were the net wet or dry, and were the pairs told by the bits of made at peace. */
+        int holdIf(int net, int corner, int isWet, int made) {
+            return Math.min(leftAt(net, corner, made), nets.knotIf(net, corner, isWet));
         }
 
         int holdNow(int net, int corner) {
@@ -1184,17 +1197,29 @@ public final class OppositeNets {
             return found;
         }
 
+        /** Jumps change knots alone, so what the men have left is measured once ahead of them. */
+        void measureLeft() {
+            for (int i = 0; i < nets.count * CORNERS; i++) {
+                left[i] = leftAt(i / CORNERS, i % CORNERS, 0);
+            }
+        }
+
         /** Somebody comes down: the net wears, or a corner gives, which is answered (NONE: held). */
         int fallInto(int net, int force) {
-            if (force > carriedIf(net, nets.wet[net], 0)) {
-                int corner = weakestCorner(net);
-                nets.knots[net * CORNERS + corner] = 0;
-                return corner;
+            int weakest = 0;
+            int least = Integer.MAX_VALUE;
+            for (int c = 0; c < CORNERS; c++) {
+                int hold = Math.min(left[net * CORNERS + c], nets.knotIf(net, c, nets.wet[net]));
+                if (hold < least) {
+                    least = hold;
+                    weakest = c;
+                }
             }
-            int wear = nets.wears[net] * storeyOf(net);
-            for (int i = net * CORNERS; i < net * CORNERS + CORNERS; i++) {
-                nets.knots[i] = Math.max(0, nets.knots[i] - wear);
+            if (force > CORNERS * least) {
+                nets.knots[net * CORNERS + weakest] = 0;
+                return weakest;
             }
+            nets.wearDown(net, storeyOf(net));
             return NONE;
         }
 
@@ -1362,14 +1387,7 @@ public final class OppositeNets {
         }
 
         void needWord(String w) {
-            needToken(isWord(w));
-        }
-
-        void needToken(boolean fits) {
-            if (fault != 0) {
-                return;
-            }
-            if (fits) {
+            if (fault == 0 && isWord(w)) {
                 readToken();
             } else {
                 refuse(MISPLACED, start);
@@ -1379,12 +1397,15 @@ public final class OppositeNets {
         int needNumber(int low, int high) {
             int read = value;
             numberPlace = start;
-            boolean fits = read >= low && read <= high;
-            if (kind == NUMBER && !fits) {
+            if (kind == NUMBER && (read < low || read > high)) {
                 refuse(NOT_AS_SAID, start);
             }
-            needToken(kind == NUMBER);
-            return fault == 0 ? read : low;
+            if (fault == 0 && kind == NUMBER) {
+                readToken();
+                return read;
+            }
+            refuse(MISPLACED, start);
+            return low;
         }
 
         /** Refuses the number read last, if what the document says of it is not so. */
@@ -1416,8 +1437,16 @@ public final class OppositeNets {
             } else {
                 refuse(MISPLACED, start);
             }
-            needToken(kind == SIGN);
+            needSign();
             told.lines++;
+        }
+
+        void needSign() {
+            if (fault == 0 && kind == SIGN) {
+                readToken();
+            } else {
+                refuse(MISPLACED, start);
+            }
         }
 
         void readHead() {
@@ -1432,25 +1461,14 @@ public final class OppositeNets {
         void needRoom(int have, int most) {
             if (have >= most) {
                 refuse(TOO_MANY, start);
+            } else {
+                readToken();
             }
-            needToken(true);
-        }
-
-        int needHouse() {
-            return needNumber(0, told.houses - 1);
-        }
-
-        int needWindow() {
-            return needNumber(0, told.windows - 1);
-        }
-
-        int needMan() {
-            return needNumber(0, told.men.count - 1);
         }
 
         void readWindow() {
             needRoom(told.windows, MOST_OF_A_KIND);
-            int h = needHouse();
+            int h = needNumber(0, told.houses - 1);
             int s = needNumber(1, told.storeys);
             if (fault == 0) {
                 told.addWindow(h, s);
@@ -1459,7 +1477,7 @@ public final class OppositeNets {
 
         void readMan() {
             needRoom(told.men.count, MOST_OF_A_KIND);
-            int h = needHouse();
+            int h = needNumber(0, told.houses - 1);
             needWord("strength");
             int s = needNumber(1, 60);
             if (fault == 0) {
@@ -1471,7 +1489,7 @@ public final class OppositeNets {
             int net = told.nets.count;
             needRoom(net, MOST_NETS);
             needWord("at");
-            int w = needWindow();
+            int w = needNumber(0, told.windows - 1);
             if (fault == 0) {
                 needAsSaid(told.netAt[w] == NONE);
             }
@@ -1484,9 +1502,9 @@ public final class OppositeNets {
             }
             needWord("wears");
             int wears = needNumber(0, 9);
-            boolean wet = isWord("wet");
+            boolean wet = fault == 0 && isWord("wet");
             if (wet) {
-                needToken(true);
+                readToken();
             }
             if (fault == 0) {
                 told.nets.window[net] = w;
@@ -1498,8 +1516,8 @@ public final class OppositeNets {
         }
 
         void readStands() {
-            needToken(true);
-            int m = needMan();
+            readToken();
+            int m = needNumber(0, told.men.count - 1);
             if (fault == 0) {
                 needAsSaid(told.men.net[m] == NONE);
             }
@@ -1515,9 +1533,9 @@ public final class OppositeNets {
         }
 
         void readQuarrel() {
-            needToken(true);
-            int m = needMan();
-            int o = needMan();
+            readToken();
+            int m = needNumber(0, told.men.count - 1);
+            int o = needNumber(0, told.men.count - 1);
             if (fault == 0) {
                 needAsSaid(m != o);
             }
@@ -1528,9 +1546,9 @@ public final class OppositeNets {
         }
 
         void readFeud() {
-            needToken(true);
-            int h = needHouse();
-            int o = needHouse();
+            readToken();
+            int h = needNumber(0, told.houses - 1);
+            int o = needNumber(0, told.houses - 1);
             if (fault == 0) {
                 needAsSaid(h != o);
             }
@@ -1544,16 +1562,16 @@ public final class OppositeNets {
             needWord("weight");
             int n = needNumber(1, 99);
             needWord("at");
-            int w = needWindow();
+            int w = needNumber(0, told.windows - 1);
             if (fault == 0) {
                 told.addJumper(n, w);
             }
         }
 
         void readRoad() {
-            needToken(true);
-            int h = needHouse();
-            int o = needHouse();
+            readToken();
+            int h = needNumber(0, told.houses - 1);
+            int o = needNumber(0, told.houses - 1);
             if (fault == 0) {
                 needAsSaid(h != o);
             }
@@ -1919,7 +1937,8 @@ public final class OppositeNets {
             this.street = street;
         }
 
-        void keepKnots() {
+        void begin() {
+            street.measureLeft();
             System.arraycopy(street.nets.knots, 0, knots, 0, knots.length);
         }
 
@@ -1928,7 +1947,7 @@ public final class OppositeNets {
         }
 
         void pass(long seed, int n) {
-            keepKnots();
+            begin();
             heldCount = 0;
             firstLost = NONE;
             long x = seed;
@@ -1949,7 +1968,7 @@ public final class OppositeNets {
             if (street.nets.wears[net] == 0) {
                 return force <= street.carriedNow(net) ? MOST_IN_A_ROW : 0;
             }
-            keepKnots();
+            begin();
             int n = 0;
             while (n < MOST_IN_A_ROW && street.fallInto(net, force) == NONE) {
                 n++;

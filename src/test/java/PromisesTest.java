@@ -142,6 +142,9 @@ public final class PromisesTest {
         fault("Street houses 2 storeys 1;", 1, 0);
         fault("streets houses 2 storeys 1;", 1, 0);
         fault("stree", 1, 0);
+        fault("streetz houses 2 storeys 1;", 1, 0);
+        fault("street zhouses 2 storeys 1;", 1, 7);
+        fault("street houses9a", 2, 13);
         fault("street", 1, 6);
         fault("street  ", 1, 8);
         fault("street houses 2 storeys 1", 1, 25);
@@ -313,6 +316,8 @@ public final class PromisesTest {
         due("15 no net", x.held(2), 0);
         due("15 -2", x.held(3), -2);
         due("15 -2", x.held(-1), -2);
+        due("15 just so", Due.told(STREET.replace("weight 16", "weight 18")).held(0), 1);
+        due("15 one more", Due.told(STREET.replace("weight 16", "weight 19")).held(0), 0);
         due("16", x.heaviest(0), 18);
         due("16", x.heaviest(1), 0);
         due("16 -2", x.heaviest(2), -2);
@@ -320,6 +325,7 @@ public final class PromisesTest {
         due("17", x.highest(0, 10), 3);
         due("17 six at most", x.highest(0, 1), 6);
         due("17 none", x.highest(0, 37), 0);
+        due("17 99 may be", x.highest(0, 99), 0);
         due("17 -2", x.highest(0, 0), -2);
         due("17 -2", x.highest(0, 100), -2);
         due("17 -2", x.highest(2, 1), -2);
@@ -414,6 +420,7 @@ public final class PromisesTest {
         due("21 nothing wears", x.corner(0, 0, 0), 10);
         due("21 no jumps", x.count(6), 0);
         due("21", x.lasts(1, 1), 0);
+        due("21 99 may be", x.lasts(0, 99), 0);
         due("21 -2", x.lasts(2, 1), -2);
         due("21 -2", x.lasts(0, 0), -2);
         due("21 -2", x.lasts(0, 100), -2);
@@ -593,6 +600,9 @@ public final class PromisesTest {
         OppositeNets y = Due.told(s);
         due("32 two across", y.peace(0), 2);
         due("33 the least", y.mends(0), 5);
+        y.anger(1, 2, 0);
+        due("32 one between two", y.peace(0), 1);
+        due("33 fewest ahead of least", y.mends(0), 8);
     }
 
     // 34, 35
