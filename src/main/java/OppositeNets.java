@@ -384,9 +384,12 @@ public final class OppositeNets {
         if (refused != 0) {
             return refused;
         }
-        int window = 0;
+        int window = NONE;
         int most = -1;
         for (int w = 0; w < street.windows; w++) {
+            if (street.hasOtherNet(w, net)) {
+                continue;
+            }
             rings.prepare(net, w);
             int n = street.jumpersHeldAt(w, rings.mostCarried());
             if (n > most) {
@@ -1092,6 +1095,10 @@ public final class OppositeNets {
 
         boolean hasJumper(int j) {
             return j >= 0 && j < jumpers;
+        }
+
+        boolean hasOtherNet(int window, int net) {
+            return netAt[window] != NONE && netAt[window] != net;
         }
 
         int netBelow(int jumper) {

@@ -472,9 +472,16 @@ final class Model {
     }
 
     int where(int net, int what) {
-        int found = 0;
+        int found = NONE;
         int most = -1;
         for (int v = 0; v < w.windows.size(); v++) {
+            boolean taken = false;
+            for (int other = 0; other < w.nets.size(); other++) {
+                taken |= other != net && window(other) == v;
+            }
+            if (taken) {
+                continue;
+            }
             int carried = most(net, v, 15);
             int n = 0;
             for (int j = 0; j < w.jumpers.size(); j++) {

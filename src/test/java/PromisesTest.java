@@ -33,6 +33,7 @@ public final class PromisesTest {
         safetyOfTwo();
         quarrelling();
         wheres();
+        wheresOfTwoNets();
         peace();
         harms();
         helping();
@@ -559,21 +560,45 @@ public final class PromisesTest {
         OppositeNets x = Due.told(STREET);
         due("31", x.where(0, 0), 0);
         due("31", x.where(0, 1), 1);
-        due("31 wet", x.where(1, 0), 0);
-        due("31 wet: 16 carried", x.where(1, 1), 0);
+        due("31 wet, not where net 0 is", x.where(1, 0), 1);
+        due("31 wet: nobody will", x.where(1, 1), 0);
         due("31 -2", x.where(2, 0), -2);
+        due("31 -2", x.where(-1, 0), -2);
         due("31 -2", x.where(0, 2), -2);
+        due("31 -2", x.where(0, -1), -2);
+        due("31 no street", new OppositeNets().where(0, 0), -2);
         String s = "street houses 2 storeys 3;window 0 3;window 1 1;window 1 3;net at 0 knots 5 5 5 5 wears 0;"
-                + "net at 1 knots 1 1 1 1 wears 0;" + "man 0 strength 5;".repeat(4)
+                + "man 0 strength 5;".repeat(4)
                 + "jumper weight 20 at 1;jumper weight 21 at 1;jumper weight 6 at 2;jumper weight 1 at 0;";
         OppositeNets y = Due.told(s);
         due("31 the first of several", y.where(0, 0), 1);
         due("31", y.where(0, 1), 1);
-        due("31", y.where(1, 0), 0);
-        due("31", y.where(1, 1), 0);
         OppositeNets z = Due.told(s + "jumper weight 2 at 2;");
         due("31", z.where(0, 0), 2);
         due("31", z.where(0, 1), 2);
+    }
+
+    // 31
+    private static void wheresOfTwoNets() {
+        String s = "street houses 2 storeys 1;window 0 1;window 0 1;window 0 1;" + "man 1 strength 9;".repeat(4)
+                + "net at 0 knots 9 9 9 9 wears 0;net at 1 knots 9 9 9 9 wears 0;jumper weight 1 at 1;";
+        OppositeNets x = Due.told(s);
+        due("31 another net is there", x.where(0, 0), 0);
+        due("31 another net is there", x.where(0, 1), 0);
+        due("31 its own is none other", x.where(1, 0), 1);
+        due("31 its own is none other", x.where(1, 1), 1);
+        OppositeNets y = Due.told(s + "jumper weight 36 at 2;jumper weight 37 at 2;");
+        due("31 a bare one", y.where(0, 0), 2);
+        due("31 a bare one", y.where(0, 1), 1);
+        due("31 the first of several", y.where(1, 0), 1);
+        OppositeNets z = Due.told(s + "jumper weight 1 at 0;jumper weight 2 at 0;");
+        due("31 most are at the other net", z.where(1, 0), 1);
+        due("31 most are at the other net", z.where(1, 1), 1);
+        due("31", z.where(0, 1), 2);
+        OppositeNets first = Due.told(s.replace("jumper weight 1 at 1;", ""));
+        due("31 nobody jumps: the first that is free", first.where(0, 0), 0);
+        due("31 nobody jumps: the first that is free", first.where(1, 0), 1);
+        due("31 nobody jumps", first.where(1, 1), 0);
     }
 
     // 32, 33
