@@ -2,15 +2,7 @@
 public final class PromisesTest {
     private static final int NONE = OppositeNets.NONE;
 
-    private static final String STREET =
-            "street houses 3 storeys 4 ;\n"
-            + "window 0 2 ; window 1 3 ; window 2 1 ;\n"
-            + "man 1 strength 20 ; man 1 strength 15 ; man 2 strength 12 ; man 2 strength 30 ; man 0 strength 40 ;\n"
-            + "net at 0 knots 10 12 14 16 wears 2 ; net at 1 knots 9 9 8 9 wears 0 wet ;\n"
-            + "stands 0 at 0 0 ; stands 1 at 0 1 ; stands 2 at 0 2 ; stands 3 at 0 3 ;\n"
-            + "quarrel 1 0 2 ; feud 2 1 ;\n"
-            + "jumper weight 16 at 0 ; jumper weight 3 at 1 ; jumper weight 5 at 2 ;\n"
-            + "road 0 1 5 ; road 1 2 7 ; road 2 0 20 ;\n";
+    private static final String STREET = Due.STREET;
 
     private static final String HEAD = "street houses 4 storeys 6 ; ";
 
