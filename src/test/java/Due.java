@@ -1,4 +1,5 @@
 import java.lang.reflect.Method;
+import java.lang.reflect.Modifier;
 import java.nio.charset.StandardCharsets;
 import java.util.Arrays;
 import java.util.Comparator;
@@ -66,13 +67,13 @@ final class Due {
         }
     }
 
-    /** Runs each test of a class: a static method without parameters, which is to ask something. */
+    /** Runs each test of a class: a static method without parameters that is not private; it is to ask something. */
     static void all(Class<?> tests) throws ReflectiveOperationException {
         Method[] found = tests.getDeclaredMethods();
         Arrays.sort(found, Comparator.comparing(Method::getName));
         int ran = 0;
         for (Method m : found) {
-            if (m.getParameterCount() == 0 && !m.isSynthetic()) {
+            if (m.getParameterCount() == 0 && !Modifier.isPrivate(m.getModifiers())) {
                 int before = asked;
                 test = m.getName() + ": ";
                 m.invoke(null);

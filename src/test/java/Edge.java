@@ -140,4 +140,23 @@ final class Edge {
         x.write(0, 2, 1);
         return x;
     }
+
+    /** As much as there may be: 4 HOUSES, 6 storeys, 9 WINDOWS, 9 MEN, 2 NETS (at windows 0 and 8), 9 JUMPERS. */
+    static String fullText() {
+        StringBuilder b = new StringBuilder("street houses 4 storeys 6;");
+        for (int i = 0; i < 9; i++) {
+            b.append("window ").append(i % 4).append(' ').append(1 + i % 6).append(';');
+            b.append("man ").append(1 + i % 3).append(" strength ").append(60 - i).append(';');
+        }
+        b.append("net at 0 knots 99 98 97 96 wears 9;net at 8 knots 1 2 3 4 wears 0 wet;");
+        b.append(stand(0, 0)).append(stand(1, 4));
+        for (int i = 0; i < 9; i++) {
+            b.append("jumper weight ").append(99 - i).append(" at ").append(8 - i).append(';');
+        }
+        return b.append("quarrel 8 7 9;quarrel 0 8 1;feud 3 2;road 0 1 99;road 1 2 99;road 2 3 99;").toString();
+    }
+
+    static OppositeNets full() {
+        return Due.told(fullText());
+    }
 }
