@@ -38,6 +38,17 @@ public final class BoundsOfHousesTest {
         }
     }
 
+    /** IV: a way leads by each other HOUSE, the first and the last too. */
+    static void alarmByEachHouse() {
+        for (int by = 0; by < 4; by++) {
+            int a = (by + 1) % 4;
+            int b = (by + 2) % 4;
+            OppositeNets x = Due.told(FOUR + "road " + a + " " + by + " 5; road " + by + " " + b + " 7;");
+            Due.is("by " + by, x.alarm(a, b), 12);
+            route(x, a, b, a, by, b);
+        }
+    }
+
     /** 37: from a HOUSE to itself it is 0 (it is no -2: "one twice" is not told here). */
     static void alarmOfItself() {
         OppositeNets x = Due.told(FOUR);
@@ -202,6 +213,16 @@ public final class BoundsOfHousesTest {
         OppositeNets nine = feud("jumper weight 20 at 0; ".repeat(9));
         Due.is("nine, keeps", nine.game(0, 1, 0, 1, 0), 18);
         Due.is("nine, wets", nine.game(0, 1, 1, 1, 0), 21);
+    }
+
+    /** V: "would be held .. as all stand": less by QUARRELS of each pair of CORNERS, on it and one above. */
+    static void gainsLessByQuarrels() {
+        for (int c = 0; c < 4; c++) {
+            OppositeNets x = Due.told("street houses 2 storeys 1; window 0 1; " + Edge.men(4, 20) + NET + Edge.stand(0, 0)
+                    + "quarrel " + c + " " + (c + 1) % 4 + " 2; jumper weight 56 at 0; jumper weight 57 at 0;");
+            Due.is("kept, pair " + c, x.game(0, 1, 0, 0, 0), 2);
+            Due.is("wetted, pair " + c, x.game(0, 1, 0, 1, 0), 2);
+        }
     }
 
     /** V: "JUMPER at its WINDOWS that has a NET there": not of one without, nor of the other one's. */
@@ -407,6 +428,15 @@ public final class BoundsOfHousesTest {
         }
     }
 
+    /** 50: "among all at which MEN stand": of the first HOUSE and the last one too, also of who WILL not hold. */
+    static void paysOfAllHouses() {
+        OppositeNets x = Due.told(FOUR + "window 0 1; man 0 strength 1; man 3 strength 1; man 3 strength 1; " + NET
+                + "stands 0 at 0 0; stands 1 at 0 1; stands 2 at 0 3;");
+        Due.is("the first", x.pays(0, 10), 3);
+        Due.is("the last", x.pays(3, 10), 6);
+        Due.is("another one", x.pays(1, 10), 0);
+    }
+
     /** 50: "a sum (0 .. 1,000,000)": on the bounds, and -2 beyond them; all of it to one HOUSE. */
     static void paysBesideTheSums() {
         OppositeNets x = Due.told(FOUR + "window 0 1; window 0 1; " + Edge.men(8, 5) + NET
@@ -468,6 +498,18 @@ public final class BoundsOfHousesTest {
         fair("4 of 1, 8 of 2", Due.told(unlike), 3, 0, 1);
     }
 
+    /** VII: "what a HOUSE adds": asked again behind a feud and a truce, it is of what is so then. */
+    static void fairIsAskedAnew() {
+        OppositeNets x = Due.told(FOUR + "window 0 1; " + Edge.men(4, 5) + "man 2 strength 5; ".repeat(4) + NET);
+        fair("each alone does", x, 1, 10, 1);
+        x.truce(0, 1, 1);
+        fair("one WILL not", x, 1, 0, 1);
+        fair("the other one alone", x, 2, 20, 1);
+        Due.is("without the other one", x.without(0, 2), 0);
+        x.truce(0, 1, 0);
+        fair("each again", x, 2, 10, 1);
+    }
+
     /** 51: "-2: there are none such": a NET, a HOUSE, a what; no STREET. */
     static void fairOfNone() {
         OppositeNets x = Due.told(FOUR + "window 0 1; " + Edge.men(4, 5) + NET);
@@ -493,6 +535,14 @@ public final class BoundsOfHousesTest {
         Due.is("five of the HOUSE", Due.told(men).without(0, 3), 36);
         Due.is("no MEN", Due.told(FOUR + "window 0 1; " + NET).without(0, 0), 0);
         Due.is("240", Due.told(FOUR + "window 0 1; " + Edge.men(9, 60) + NET).without(0, 0), 240);
+    }
+
+    /** 52: the MEN of all other HOUSES are there, of the first and of the last one too. */
+    static void withoutOthersThanTheFirst() {
+        OppositeNets x = Due.told(FOUR + "window 1 1; " + "man 0 strength 5; ".repeat(4) + "man 3 strength 4; ".repeat(4) + NET);
+        Due.is("without the last", x.without(0, 3), 20);
+        Due.is("without the first", x.without(0, 0), 16);
+        Due.is("without its own", x.without(0, 1), 20);
     }
 
     /** 52: "-2: there are none such": a NET, a HOUSE; no STREET. */

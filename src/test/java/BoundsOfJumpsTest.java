@@ -107,6 +107,33 @@ public final class BoundsOfJumpsTest {
         knots("the first of them gave", x, 0, 4, 0, 0, 9);
     }
 
+    /** JUMP: "no more than it CARRIES", less by the QUARRELS of each pair of CORNERS: on it, and one above. */
+    static void jumpOnWhatQuarrelsLeave() {
+        for (int c = 0; c < 4; c++) {
+            String angry = Edge.four(1, 20, 50, 1) + "quarrel " + c + " " + (c + 1) % 4 + " 2; jumper weight ";
+            OppositeNets on = Due.told(angry + "56 at 0;");
+            Due.is("night, 56 of 56, pair " + c, on.night(0, 1, 0), 1);
+            Due.is("lasts, 56 of 56, pair " + c, on.lasts(0, 56), 37);
+            Due.is("lasts, 57 of 56, pair " + c, on.lasts(0, 57), 0);
+            Due.is("56 of 56, pair " + c, on.jump(0), 1);
+            OppositeNets above = Due.told(angry + "57 at 0;");
+            Due.is("night, 57 of 56, pair " + c, above.night(0, 1, 0), 0);
+            Due.is("57 of 56, pair " + c, above.jump(0), 0);
+            Due.is("what gave, pair " + c, above.led(0, 2), c == 3 ? 0 : c);
+        }
+    }
+
+    /** JUMP: what it CARRIES is by the men at this NET, weaker or stronger than at the other one. */
+    static void jumpIntoEachOfUnlikeNets() {
+        for (int weight = 19; weight <= 21; weight++) {
+            OppositeNets x = Due.told("street houses 2 storeys 1; window 0 1; window 0 1; " + Edge.men(4, 5) + Edge.men(4, 6)
+                    + "net at 0 knots 9 9 9 9 wears 0; net at 1 knots 9 9 9 9 wears 0; " + Edge.stand(0, 0) + Edge.stand(1, 4)
+                    + "jumper weight " + weight + " at 0; jumper weight " + (weight + 4) + " at 1;");
+            Due.is(weight + " of 20", x.jump(0), weight <= 20 ? 1 : 0);
+            Due.is(weight + 4 + " of 24", x.jump(1), weight <= 20 ? 1 : 0);
+        }
+    }
+
     /** JUMP: "its knot is 0": also one that is 0 already. */
     static void whatGaveCanGiveAgain() {
         OppositeNets x = net(1, 5, "9 9 9 9", 0, 21);
@@ -234,6 +261,26 @@ public final class BoundsOfJumpsTest {
         }
         y.undo();
         knots("one gave", y, 0, 9, 44, 7, 6);
+    }
+
+    /** 19: "all four knots of its NET are as ahead of it": of unlike knots at each CORNER of both NETS. */
+    static void undoOfUnlikeNets() {
+        OppositeNets x = Due.told("street houses 2 storeys 6; window 0 1; window 0 2; " + Edge.men(8, 5)
+                + "net at 0 knots 11 12 13 14 wears 1; net at 1 knots 21 22 23 24 wears 2; " + Edge.stand(0, 0)
+                + Edge.stand(1, 4) + "jumper weight 1 at 0; jumper weight 1 at 1;");
+        x.jump(1);
+        x.jump(0);
+        x.jump(1);
+        knots("three JUMPS", x, 0, 10, 11, 12, 13);
+        knots("three JUMPS", x, 1, 13, 14, 15, 16);
+        x.undo();
+        knots("two", x, 1, 17, 18, 19, 20);
+        x.undo();
+        knots("one", x, 0, 11, 12, 13, 14);
+        knots("one", x, 1, 17, 18, 19, 20);
+        x.undo();
+        knots("none", x, 0, 11, 12, 13, 14);
+        knots("none", x, 1, 21, 22, 23, 24);
     }
 
     /** 19: "all four knots of its NET": the other NET's stay as mended; who stands and what is wet stays too. */

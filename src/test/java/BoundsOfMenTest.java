@@ -66,6 +66,91 @@ public final class BoundsOfMenTest {
         Due.is("three WILL", Due.told(ONE + Edge.men(3, 60) + "man 0 strength 60; " + NET).best(0), 0);
     }
 
+    /** III: what it CARRIES is no more than the least knot, at each CORNER; half of it, cut, if it is wet. */
+    static void bestIsNoMoreThanTheKnots() {
+        for (int c = 0; c < 4; c++) {
+            OppositeNets x = one(4, 30, 1);
+            for (int knot = 29; knot <= 31; knot++) {
+                x.mend(0, c, knot);
+                Due.is("knot " + knot + " at " + c, x.best(0), 4 * Math.min(30, knot));
+            }
+            x.wet(0, 1);
+            Due.is("wet, knot 31 at " + c, x.best(0), 60);
+            x.mend(0, c, 1);
+            Due.is("wet, knot 1 at " + c, x.best(0), 0);
+            Due.is("wet, knot 1 at " + c + ": rows", x.rows(0, 1), 0);
+        }
+    }
+
+    /** III: by QUARRELS "0 at least": what is below 0 is carried as 0, and all rows do so. */
+    static void bestIsZeroAtLeast() {
+        OppositeNets x = Due.told(ONE + Edge.men(4, 1) + NET + allQuarrel(4, 9));
+        Due.is("1 less 54", x.best(0), 0);
+        Due.is("all rows", x.rows(0, 0), 24);
+        Due.is("none above", x.rows(0, 1), 0);
+        posts(x, 0, 0, 1, 2, 3);
+    }
+
+    /** III: the first row of all there are is looked at: 0 and 2, 1 and 3 can't stand beside one another. */
+    static void bestByTheFirstRowAlone() {
+        OppositeNets x = Due.told(ONE + Edge.men(4, 9) + NET + "quarrel 0 2 9; quarrel 1 3 9;");
+        Due.is("best", x.best(0), 36);
+        posts(x, 0, 0, 1, 2, 3);
+        Due.is("rows", x.rows(0, 36), 8);
+        Due.is("without another HOUSE", x.without(0, 0), 36);
+        Due.is("fair", x.fair(0, 1, 0), 36);
+        x.anger(0, 2, 0);
+        x.anger(1, 3, 0);
+        x.anger(0, 1, 9);
+        x.anger(2, 3, 9);
+        Due.is("best, others apart", x.best(0), 36);
+        posts(x, 0, 0, 2, 1, 3);
+    }
+
+    /** 24 to 26: of five MEN of unlike strength and QUARRELS, each row is tried here, and each n asked beside it. */
+    static void rowsOfUnlikeMen() {
+        int[] strength = {20, 17, 25, 14, 30};
+        int[][] quarrel = {{0, 1, 2, 0, 3}, {1, 0, 4, 2, 0}, {2, 4, 0, 1, 5}, {0, 2, 1, 0, 2}, {3, 0, 5, 2, 0}};
+        StringBuilder b = new StringBuilder(ONE);
+        for (int s : strength) {
+            b.append("man 1 strength ").append(s).append("; ");
+        }
+        b.append(NET);
+        for (int m = 0; m < 5; m++) {
+            for (int o = 0; o < m; o++) {
+                b.append(quarrel[m][o] == 0 ? "" : "quarrel " + m + " " + o + " " + quarrel[m][o] + "; ");
+            }
+        }
+        OppositeNets x = Due.told(b.toString());
+        int[] rows = rowsByWhatTheyCarry(strength, quarrel);
+        int more = 0;
+        int best = -1;
+        for (int n = 120; n >= 0; n--) {
+            more += rows[n];
+            best = best < 0 && more > 0 ? n : best;
+            Due.is("rows(0, " + n + ")", x.rows(0, n), more);
+        }
+        Due.is("best(0)", x.best(0), best);
+    }
+
+    private static int[] rowsByWhatTheyCarry(int[] strength, int[][] quarrel) {
+        int[] rows = new int[121];
+        int men = strength.length;
+        for (int i = 0; i < men * men * men * men; i++) {
+            int[] row = {i / (men * men * men), i / (men * men) % men, i / men % men, i % men};
+            if (java.util.Arrays.stream(row).distinct().count() < 4) {
+                continue;
+            }
+            int least = 60;
+            for (int c = 0; c < 4; c++) {
+                int with = quarrel[row[c]][row[(c + 1) % 4]] + quarrel[row[c]][row[(c + 3) % 4]];
+                least = Math.min(least, Math.max(0, strength[row[c]] - 3 * with));
+            }
+            rows[4 * least]++;
+        }
+        return rows;
+    }
+
     /** III: "any four MEN anew": who stands elsewhere too, and "(all others away)": no QUARREL with them counts. */
     static void standingIsAnew() {
         OppositeNets x = Due.told(TWO + Edge.men(8, 9) + NETS + Edge.stand(1, 4) + "stands 0 at 0 0; "
@@ -248,6 +333,15 @@ public final class BoundsOfMenTest {
         placed(x, 1, 4, 5, 6, 7);
     }
 
+    /** III: "the first row (NET 0 first)": of several crews of NET 1, the least row, not the least crew. */
+    static void safeByTheFirstRowOfTheSecondNet() {
+        OppositeNets x = Due.told(TWO + Edge.men(9, 20) + NETS + "jumper weight 4 at 0; jumper weight 4 at 1; "
+                + "quarrel 5 6 1; quarrel 6 7 1;");
+        Due.is("fewest", x.safe(), 0);
+        placed(x, 0, 0, 1, 2, 3);
+        placed(x, 1, 4, 5, 7, 8);
+    }
+
     // ---- Promise 28: placed ----
 
     /** 28: "NONE: nobody, it can't be": no NEED; a NEED that is too great; too few MEN. */
@@ -391,6 +485,18 @@ public final class BoundsOfMenTest {
         Due.is("two there", x.where(1, 1), 2);
     }
 
+    /** 31: of nine WINDOWS each is asked about, to the last one. */
+    static void whereOfNineWindows() {
+        String text = "street houses 2 storeys 6; " + "window 0 1; ".repeat(9) + Edge.men(4, 6) + NET + "jumper weight 24 at ";
+        for (int w = 0; w < 9; w++) {
+            Due.is("WINDOW " + w, Due.told(text + w + ";").where(0, 0), w);
+        }
+        Due.is("none is held: the first that has no other NET", Edge.full().where(1, 0), 1);
+        Due.is("none is held", Edge.full().where(1, 1), 0);
+        Due.is("one is held: the first", Edge.full().where(0, 0), 0);
+        Due.is("one is held", Edge.full().where(0, 1), 1);
+    }
+
     /** 31: "-2: there are none such": no such NET, no such what; it comes ahead of -6. */
     static void whereOfNone() {
         OppositeNets x = Due.told(WINDOWS);
@@ -453,6 +559,12 @@ public final class BoundsOfMenTest {
         peace("either of two", either, 1, 1);
     }
 
+    /** 32, 33: "The fewest pairs": two (1 and 3) do, though three that are a lesser set (0, 1 and 2) do too. */
+    static void fewestPairsAheadOfTheLeastSet() {
+        peace("1 and 3", Due.told(ONE + Edge.men(4, 20) + NET + Edge.stand(0, 0) + "quarrel 0 1 1; quarrel 1 2 2; "
+                + "quarrel 2 3 1; quarrel 3 0 1; jumper weight 68 at 0;"), 2, 10);
+    }
+
     /** 32, 33: none are to be made up: no NEED, or it CARRIES it. */
     static void peaceWithoutNeed() {
         peace("no JUMPERS", Due.told(ONE + Edge.men(4, 60) + NET + Edge.stand(0, 0) + allQuarrel(4, 9)), 0, 0);
@@ -506,6 +618,21 @@ public final class BoundsOfMenTest {
         Due.is("of net 1", x.harm(4), 36);
         Due.is("he stands still", x.man(4, 2), 1);
         Due.is("all is carried still", x.net(1, 4), 36);
+    }
+
+    /** 34, 36: "CARRY together": less by QUARRELS of each pair. */
+    static void harmAndHelpByQuarrels() {
+        for (int c = 0; c < 4; c++) {
+            OppositeNets x = Due.told(ONE + Edge.men(4, 20) + NET + Edge.stand(0, 0));
+            x.anger(c, (c + 1) % 4, 6);
+            Due.is("harm, pair " + c, x.harm(3), 8);
+            x.anger(c, (c + 1) % 4, 7);
+            Due.is("harm of nothing, pair " + c, x.harm(3), 0);
+            x.stand(c, NONE, 0);
+            Due.is("helps by nothing, pair " + c, x.helps(), NONE);
+            x.anger(c, (c + 1) % 4, 6);
+            Due.is("helps by 8, pair " + c, x.helps(), 101 * c);
+        }
     }
 
     /** 34: "-1,000: there is none such": below 0, behind the last of five and of nine, no MEN, no STREET. */

@@ -52,6 +52,17 @@ public final class BoundsOfSlotsTest {
         seen(x, 2, 0, 41, 0);
     }
 
+    /** 46: "if it held as all stand": less by QUARRELS of each pair of CORNERS, on it and one above. */
+    static void seenByWhatQuarrelsLeave() {
+        for (int c = 0; c < 4; c++) {
+            OppositeNets x = Due.told(Edge.four(1, 20, 99, 0) + "quarrel " + c + " " + (c + 1) % 4 + " 2;");
+            seen(x, 2, 0, 56, 1);
+            seen(x, 0, 0, 56, 0);
+            seen(x, 0, 0, 57, 1);
+            seen(x, 2, 0, 57, 0);
+        }
+    }
+
     /** 46: "in how many ways": of two NETS none to four; "(whatever is told)": wet as told or not. */
     static void seenFromNoWayToAll() {
         OppositeNets x = two();
@@ -267,6 +278,21 @@ public final class BoundsOfSlotsTest {
         Edge.refused("mend(0, 3, ?)", 0, 99, v -> x.mend(0, 3, v), -2);
         Due.is("as it was", x.mend(0, 3, 98), 1);
         Due.is("the others too", x.mend(0, 2, 1), 10);
+    }
+
+    /** 53: "what it was" of each CORNER of each NET, all unlike. */
+    static void mendOfEachCorner() {
+        OppositeNets x = Due.told(TWO + "net at 0 knots 11 12 13 14 wears 0; net at 1 knots 21 22 23 24 wears 0;");
+        for (int net = 0; net < 2; net++) {
+            for (int c = 0; c < 4; c++) {
+                Due.is("mend(" + net + ", " + c + ", 0)", x.mend(net, c, 0), 10 * net + 11 + c);
+            }
+        }
+        for (int net = 0; net < 2; net++) {
+            for (int c = 0; c < 4; c++) {
+                Due.is("mend(" + net + ", " + c + ", 1)", x.mend(net, c, 1), 0);
+            }
+        }
     }
 
     /** 53: "-2: there are none such": a NET, a CORNER; and all stays as it was. */
@@ -537,6 +563,33 @@ public final class BoundsOfSlotsTest {
         }
         Due.is("back(1) again", x.back(1), 0);
         Due.is("60 JUMPS again", x.count(6), 60);
+    }
+
+    /** 60: "JUMPS too": of each its JUMPER, what gave and the knots ahead of it, whatever JUMPS come behind the IMAGE. */
+    static void imageKeepsEachJump() {
+        OppositeNets x = Due.told(TWO + Edge.men(8, 5) + "net at 0 knots 11 12 13 14 wears 1; net at 1 knots 21 22 23 3 wears 2; "
+                + Edge.stand(0, 0) + Edge.stand(1, 4) + "jumper weight 1 at 0; jumper weight 20 at 1;");
+        x.jump(1);
+        x.jump(0);
+        x.image(0);
+        x.undo();
+        x.undo();
+        x.jump(0);
+        x.jump(0);
+        x.jump(0);
+        Due.is("back(0)", x.back(0), 0);
+        Due.is("JUMPS", x.count(6), 2);
+        Due.is("JUMPER of the first", x.led(0, 0), 1);
+        Due.is("not held", x.led(0, 1), 0);
+        Due.is("what gave", x.led(0, 2), 3);
+        Due.is("JUMPER of the second", x.led(1, 0), 0);
+        Due.is("held", x.led(1, 1), 1);
+        x.undo();
+        Due.is("a knot ahead of the second", x.corner(0, 0, 0), 11);
+        Due.is("what gave is 0 still", x.corner(1, 3, 0), 0);
+        x.undo();
+        Due.is("a knot ahead of the first", x.corner(1, 3, 0), 3);
+        Due.is("another knot ahead of the first", x.corner(1, 0, 0), 21);
     }
 
     /** 60: an IMAGE is kept in place of another of its k; 61: going back leaves the others and itself. */

@@ -529,6 +529,23 @@ public final class BoundsOfTextTest {
         }
     }
 
+    /** FAULTS: "1 a TOKEN that .. can't stand there": each word with one letter less, more, another first or last one. */
+    static void wordsThatAreAlmostRight() {
+        for (String line : LINES_OF_ALL_KINDS) {
+            String[] tokens = line.split(" ");
+            for (int i = 0; i < tokens.length; i++) {
+                if (Character.isLetter(tokens[i].charAt(0))) {
+                    int last = tokens[i].length() - 1;
+                    fault(before(line, i) + "^z" + tokens[i].substring(1), 1);
+                    fault(before(line, i) + "^" + tokens[i].substring(0, last) + "q", 1);
+                    fault(before(line, i) + "^" + tokens[i].substring(0, last), 1);
+                    fault(before(line, i) + "^" + tokens[i] + "q", 1);
+                    fault(before(line, i) + "^q" + tokens[i], 1);
+                }
+            }
+        }
+    }
+
     /** FAULTS: "(..; the end's)": the end ahead of each TOKEN of each LINE. */
     static void endAheadOfEachToken() {
         for (String line : LINES_OF_ALL_KINDS) {

@@ -191,6 +191,20 @@ public final class BoundsOfThingsTest {
         Due.is("least of unlike ones", holding(9, 8, 7, 10).net(0, 4), 28);
     }
 
+    /** II: "four times the least HOLD": each pair of CORNERS that quarrels makes it less, and it gives there. */
+    static void carriesLessByEachPair() {
+        for (int c = 0; c < 4; c++) {
+            OppositeNets x = holding(60, 60, 60, 60);
+            x.anger(c, (c + 1) % 4, 1);
+            Due.is("CARRIES, pair " + c, x.net(0, 4), 228);
+            Due.is("holds 228, pair " + c, x.gives(0, 228), NONE);
+            Due.is("gives by 229, pair " + c, x.gives(0, 229), c == 3 ? 0 : c);
+            Due.is("heaviest, pair " + c, x.heaviest(0), 228);
+            Due.is("highest of 38, pair " + c, x.highest(0, 38), 6);
+            Due.is("highest of 39, pair " + c, x.highest(0, 39), 5);
+        }
+    }
+
     /** NEED: "the greatest FORCE of JUMPERS at its WINDOW (0: none)". */
     static void needIsZeroOfNoJumpers() {
         String street = "street houses 2 storeys 6;window 0 3;window 1 6;net at 0 knots 1 1 1 1 wears 0;";
