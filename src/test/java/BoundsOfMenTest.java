@@ -82,6 +82,26 @@ public final class BoundsOfMenTest {
         }
     }
 
+    /** III: MEN of a STREET that was there before are none: four weak ones in place of nine strong ones. */
+    static void standingsOfFewerMenThanBefore() {
+        OppositeNets x = Due.told(ONE + Edge.men(9, 60) + NET + "jumper weight 5 at 0;");
+        Due.is("nine: best", x.best(0), 240);
+        Due.is("nine: safe", x.safe(), 0);
+        Due.read(x, ONE + Edge.men(4, 1) + NET + "jumper weight 5 at 0;");
+        Due.is("four: best", x.best(0), 4);
+        posts(x, 0, 0, 1, 2, 3);
+        Due.is("four: rows", x.rows(0, 4), 24);
+        Due.is("four: rows above", x.rows(0, 5), 0);
+        Due.is("four: safe", x.safe(), NONE);
+        Due.is("four: ways", x.ways(), 0);
+        Due.is("four: fair", x.fair(0, 1, 0), 4);
+        Due.is("four: without", x.without(0, 0), 4);
+        Due.read(x, ONE + Edge.men(3, 60) + NET + "jumper weight 5 at 0;");
+        Due.is("three: safe", x.safe(), NONE);
+        Due.is("three: fair", x.fair(0, 1, 0), 0);
+        Due.is("three: without", x.without(0, 0), 0);
+    }
+
     /** III: by QUARRELS "0 at least": what is below 0 is carried as 0, and all rows do so. */
     static void bestIsZeroAtLeast() {
         OppositeNets x = Due.told(ONE + Edge.men(4, 1) + NET + allQuarrel(4, 9));
@@ -109,15 +129,26 @@ public final class BoundsOfMenTest {
 
     /** 24 to 26: of five MEN of unlike strength and QUARRELS, each row is tried here, and each n asked beside it. */
     static void rowsOfUnlikeMen() {
-        int[] strength = {20, 17, 25, 14, 30};
-        int[][] quarrel = {{0, 1, 2, 0, 3}, {1, 0, 4, 2, 0}, {2, 4, 0, 1, 5}, {0, 2, 1, 0, 2}, {3, 0, 5, 2, 0}};
+        for (int first = 0; first < 5; first++) {
+            rowsOfUnlikeMenFrom(first);
+        }
+    }
+
+    /** Five men, of whom each is the first one once. */
+    private static void rowsOfUnlikeMenFrom(int first) {
+        int[] strengths = {20, 17, 25, 14, 30};
+        int[][] quarrels = {{0, 1, 2, 0, 3}, {1, 0, 4, 2, 0}, {2, 4, 0, 1, 5}, {0, 2, 1, 0, 2}, {3, 0, 5, 2, 0}};
+        int[] strength = new int[5];
+        int[][] quarrel = new int[5][5];
         StringBuilder b = new StringBuilder(ONE);
-        for (int s : strength) {
-            b.append("man 1 strength ").append(s).append("; ");
+        for (int m = 0; m < 5; m++) {
+            strength[m] = strengths[(m + first) % 5];
+            b.append("man 1 strength ").append(strength[m]).append("; ");
         }
         b.append(NET);
         for (int m = 0; m < 5; m++) {
-            for (int o = 0; o < m; o++) {
+            for (int o = 0; o < 5; o++) {
+                quarrel[m][o] = quarrels[(m + first) % 5][(o + first) % 5];
                 b.append(quarrel[m][o] == 0 ? "" : "quarrel " + m + " " + o + " " + quarrel[m][o] + "; ");
             }
         }
@@ -128,9 +159,9 @@ public final class BoundsOfMenTest {
         for (int n = 120; n >= 0; n--) {
             more += rows[n];
             best = best < 0 && more > 0 ? n : best;
-            Due.is("rows(0, " + n + ")", x.rows(0, n), more);
+            Due.is("from " + first + ": rows(0, " + n + ")", x.rows(0, n), more);
         }
-        Due.is("best(0)", x.best(0), best);
+        Due.is("from " + first + ": best(0)", x.best(0), best);
     }
 
     private static int[] rowsByWhatTheyCarry(int[] strength, int[][] quarrel) {
@@ -331,6 +362,13 @@ public final class BoundsOfMenTest {
         Due.is("fewest", x.safe(), 0);
         placed(x, 0, 0, 2, 1, 3);
         placed(x, 1, 4, 5, 6, 7);
+    }
+
+    /** III: "the first row": of several crews, the least row, not the least crew. */
+    static void safeByTheFirstRowOfAllCrews() {
+        OppositeNets x = Due.told(ONE + Edge.men(5, 20) + NET + "jumper weight 4 at 0; quarrel 1 2 1; quarrel 2 3 1;");
+        Due.is("fewest", x.safe(), 0);
+        placed(x, 0, 0, 1, 3, 4);
     }
 
     /** III: "the first row (NET 0 first)": of several crews of NET 1, the least row, not the least crew. */

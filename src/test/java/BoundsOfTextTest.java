@@ -459,6 +459,15 @@ public final class BoundsOfTextTest {
         fault(" \n ^window 0 1;", 1);
     }
 
+    /** TOKENS: "the longest": a word, a number as long as the TAPE, and a number whose zeros fill it. */
+    static void tokensAsLongAsTheTape() {
+        fault("^" + "a".repeat(1400), 1);
+        fault("^" + "1".repeat(1400), 1);
+        fault("street houses ^" + "2".repeat(1386), 2);
+        fault("street houses ^" + "0".repeat(1386), 2);
+        fine("street houses " + "0".repeat(1374) + "2 storeys 1;".replace(" ", ""));
+    }
+
     // ---- FAULTS ----
 
     /** FAULTS: "the first by its place": what comes behind it is not looked at. */
@@ -478,6 +487,16 @@ public final class BoundsOfTextTest {
         fault("street houses 2 storeys  ^;", 1);
         fault("street houses 2 storeys \n^" + (char) 0, 1);
         fault("^?", 1);
+    }
+
+    /** FAULTS: "the first by its place": the last one of 1,400 bytes, and the end behind it. */
+    static void placeIsTheLastByte() {
+        String blanks = " ".repeat(1400 - HEAD.length() - 1);
+        fault(HEAD + blanks + "^?", 1);
+        fault(HEAD + blanks + "^;", 1);
+        fault(HEAD + blanks.substring(5) + "feud ^4", 2);
+        fault(HEAD + blanks.substring(3) + "feud^", 1);
+        fine(HEAD + blanks.substring(7) + "feud0 1;");
     }
 
     /** FAULTS: "(..; the end's)": a LINE that the end cuts has its fault there, behind the last blank. */
