@@ -30,7 +30,7 @@ public final class BoundsOfHousesTest {
         Due.is("the shortest", Due.told(FOUR + "road 3 2 1;").alarm(2, 3), 1);
     }
 
-    /** IV: a way round is taken if it is shorter by one minute, not if it is longer by one. */
+    /** IV: "the fewest minutes by roads": a way round that is shorter by one minute, as long, longer by one. */
     static void alarmByTheShorterWay() {
         for (int minutes = 9; minutes <= 11; minutes++) {
             OppositeNets x = Due.told(FOUR + "road 0 3 " + minutes + "; road 0 1 5; road 1 3 5;");
@@ -38,7 +38,7 @@ public final class BoundsOfHousesTest {
         }
     }
 
-    /** IV: a way leads by each other HOUSE, the first and the last too. */
+    /** IV: "the fewest minutes by roads from a HOUSE to another one": a way leads by each other HOUSE, the first and the last. */
     static void alarmByEachHouse() {
         for (int by = 0; by < 4; by++) {
             int a = (by + 1) % 4;
@@ -310,7 +310,7 @@ public final class BoundsOfHousesTest {
         return falls;
     }
 
-    /** 43 and VI: each n of 0 .. 99, each number of cats of 1 .. 9; no STREET is asked for. */
+    /** 43: "n (0 .. 99) storeys by so many cats (1 .. 9)", VI: "The fewest falls": each n, each number of cats, no STREET. */
     static void testsOfAllThereAre() {
         int[][] falls = fewest();
         for (int cats = 1; cats <= 9; cats++) {
@@ -334,7 +334,7 @@ public final class BoundsOfHousesTest {
         Due.is("tests(99, 10)", x.tests(99, 10), -2);
     }
 
-    /** 44: the most storeys for which so many falls do, of each number of falls and cats. */
+    /** 44: "so many falls (0 .. 12) by so many cats": each number of falls, each number of cats. */
     static void soughtOfAllThereAre() {
         int[][] most = new int[13][10];
         OppositeNets x = new OppositeNets();
@@ -386,7 +386,7 @@ public final class BoundsOfHousesTest {
 
     // ---- Promise 49: corners ----
 
-    /** 49: none, one, four, eight at most. */
+    /** 49: "CORNERS at which a HOUSE's MEN stand": none, one, eight at most. */
     static void cornersFromNoneToAll() {
         OppositeNets x = Due.told(FOUR + "window 0 1; window 0 1; " + Edge.men(9, 5) + NET
                 + "net at 1 knots 1 1 1 1 wears 0; ");
@@ -537,7 +537,7 @@ public final class BoundsOfHousesTest {
         Due.is("240", Due.told(FOUR + "window 0 1; " + Edge.men(9, 60) + NET).without(0, 0), 240);
     }
 
-    /** 52: the MEN of all other HOUSES are there, of the first and of the last one too. */
+    /** 52: "without MEN of a HOUSE": those of all others are there, of the first and of the last one too. */
     static void withoutOthersThanTheFirst() {
         OppositeNets x = Due.told(FOUR + "window 1 1; " + "man 0 strength 5; ".repeat(4) + "man 3 strength 4; ".repeat(4) + NET);
         Due.is("without the last", x.without(0, 3), 20);
@@ -560,7 +560,7 @@ public final class BoundsOfHousesTest {
 
     // ---- nothing is changed by asking ----
 
-    /** 37 to 45: calls that are refused leave all as it was, and so do ones that answer. */
+    /** 37 to 45: behind "-2: there are none such" and "NONE" all stays as it was, and behind answers too. */
     static void roadsAndGamesLeaveAll() {
         OppositeNets x = Edge.busy();
         Edge.stays("alarm, route, last, middle, game, rests, tests, sought, firstFall", x, () -> {
@@ -585,7 +585,7 @@ public final class BoundsOfHousesTest {
         });
     }
 
-    /** 49 to 52: calls that are refused leave all as it was, and so do ones that answer. */
+    /** 49 to 52: behind "-2: there are none such" all stays as it was, and behind answers too. */
     static void sharesLeaveAll() {
         OppositeNets x = Edge.busy();
         Edge.stays("corners, pays, fair, without", x, () -> {

@@ -71,7 +71,7 @@ public final class BoundsOfJumpsTest {
         knots("none wears", y, 0, 99, 98, 97, 1);
     }
 
-    /** JUMP: it is the knot that wears, not its half, where the NET is wet. */
+    /** JUMP: "each knot is then less by wears times the storey": the knot, not its half, where the NET is wet. */
     static void wholeKnotsWear() {
         OppositeNets x = net(1, 60, "30 31 32 33", 5, 60);
         x.wet(0, 1);
@@ -95,7 +95,7 @@ public final class BoundsOfJumpsTest {
         }
     }
 
-    /** JUMP: least HOLD, not the least knot: who is weak gives, and who is not there. */
+    /** JUMP: "the first CORNER of least HOLD gives": not of the least knot: who is weak, who is not there. */
     static void leastHoldIsNotTheLeastKnot() {
         OppositeNets x = Due.told("street houses 2 storeys 1; window 0 1; man 1 strength 9; man 1 strength 9; "
                 + "man 1 strength 3; man 1 strength 9; net at 0 knots 4 9 50 9 wears 1; " + Edge.stand(0, 0)
@@ -123,7 +123,7 @@ public final class BoundsOfJumpsTest {
         }
     }
 
-    /** JUMP: what it CARRIES is by the men at this NET, weaker or stronger than at the other one. */
+    /** JUMP: "on the NET at one's WINDOW": what it CARRIES is by the men there, weaker or stronger than at the other. */
     static void jumpIntoEachOfUnlikeNets() {
         for (int weight = 19; weight <= 21; weight++) {
             OppositeNets x = Due.told("street houses 2 storeys 1; window 0 1; window 0 1; " + Edge.men(4, 5) + Edge.men(4, 6)
@@ -143,7 +143,7 @@ public final class BoundsOfJumpsTest {
         knots("no other gave", x, 0, 0, 9, 9, 9);
     }
 
-    /** JUMP: it is of the NET at one's WINDOW alone: the other one's knots stay. */
+    /** JUMP: "on the NET at one's WINDOW": the other one's knots stay. */
     static void theOtherNetStays() {
         OppositeNets x = Due.told("street houses 2 storeys 6; window 0 1; window 0 2; " + Edge.men(8, 5)
                 + "net at 0 knots 9 9 9 9 wears 1; net at 1 knots 8 8 8 8 wears 2; " + Edge.stand(0, 0)
@@ -364,7 +364,7 @@ public final class BoundsOfJumpsTest {
         Due.is("wears 1, weight 61", net(1, 60, "99 99 99 99", 1, 1).lasts(0, 61), 84);
     }
 
-    /** 21: in a row: none, one, and the least knot tells. */
+    /** 21: "How many JUMPS .. in a row a NET would hold": none, one, two; the least knot tells. */
     static void lastsNoneAndOne() {
         OppositeNets x = net(1, 60, "99 99 5 99", 5, 1);
         Due.is("20 of 20", x.lasts(0, 20), 1);
@@ -377,7 +377,7 @@ public final class BoundsOfJumpsTest {
         Due.is("CARRIES 0", x.lasts(0, 1), 0);
     }
 
-    /** 21: it only tells: no JUMPS come of it, and the knots stay. */
+    /** 21: "a NET would hold": no JUMPS come of it and the knots stay, behind "-2" too. */
     static void lastsLeavesAll() {
         OppositeNets x = Edge.busy();
         Edge.stays("lasts", x, () -> {
@@ -688,7 +688,7 @@ public final class BoundsOfJumpsTest {
         Due.is("the first", x.night(0, 60, 1), 0);
     }
 
-    /** 57: a NIGHT is no JUMP of jump(): it can be when there were 60, and is none of them. */
+    /** VIII, 57: "in it as in a JUMP": it is none of the 60 JUMPS, and can be when there were 60. */
     static void nightBehindSixtyJumps() {
         OppositeNets x = sixty();
         Due.is("night", x.night(7, 60, 0), held(7, 60));
@@ -729,7 +729,7 @@ public final class BoundsOfJumpsTest {
         }
     }
 
-    /** 58: the seed is 0 .. 2,000,000,000 as in a NIGHT; those behind it may be more. */
+    /** 58: "from seeds, the seed and 1, ..": the first is 0 .. 2,000,000,000; those behind it may be more. */
     static void seedsBeyondTheGreatest() {
         OppositeNets x = oneIsHeld(2, 0);
         for (int m = 1; m <= 20; m++) {
@@ -748,7 +748,7 @@ public final class BoundsOfJumpsTest {
         Due.is("61", x.years(7, 20, 61), -2);
     }
 
-    /** 58: each NIGHT has the knots as they were: what one wears is whole in the next one. */
+    /** VIII, 58: "as they were behind it": what one NIGHT wears is whole in the next one. */
     static void eachNightIsAnew() {
         OppositeNets x = net(1, 60, "60 60 60 60", 1, 4);
         Due.is("60 are held in each", x.years(0, 20, 60), 20);

@@ -55,7 +55,7 @@ public final class BoundsOfMenTest {
         }
     }
 
-    /** 24: what it CARRIES at most: 0 (nobody WILL), 4, 240. */
+    /** 24: "what a NET CARRIES at most": 0 (nobody WILL), 4, 240. */
     static void bestFromNoneToAll() {
         Due.is("240", one(4, 60, 1).best(0), 240);
         Due.is("4", one(4, 1, 1).best(0), 4);
@@ -66,7 +66,7 @@ public final class BoundsOfMenTest {
         Due.is("three WILL", Due.told(ONE + Edge.men(3, 60) + "man 0 strength 60; " + NET).best(0), 0);
     }
 
-    /** III: what it CARRIES is no more than the least knot, at each CORNER; half of it, cut, if it is wet. */
+    /** II, 24: "no more than the knot (half of it, cut, if the NET is wet)": of the least knot, at each CORNER. */
     static void bestIsNoMoreThanTheKnots() {
         for (int c = 0; c < 4; c++) {
             OppositeNets x = one(4, 30, 1);
@@ -82,7 +82,7 @@ public final class BoundsOfMenTest {
         }
     }
 
-    /** III: MEN of a STREET that was there before are none: four weak ones in place of nine strong ones. */
+    /** 4, III: "(in place of another)", "any four MEN": four weak ones in place of nine strong ones, then three. */
     static void standingsOfFewerMenThanBefore() {
         OppositeNets x = Due.told(ONE + Edge.men(9, 60) + NET + "jumper weight 5 at 0;");
         Due.is("nine: best", x.best(0), 240);
@@ -111,7 +111,7 @@ public final class BoundsOfMenTest {
         posts(x, 0, 0, 1, 2, 3);
     }
 
-    /** III: the first row of all there are is looked at: 0 and 2, 1 and 3 can't stand beside one another. */
+    /** III: "by which it CARRIES most": by the very first row alone, where 0 and 2, 1 and 3 can't be beside one another. */
     static void bestByTheFirstRowAlone() {
         OppositeNets x = Due.told(ONE + Edge.men(4, 9) + NET + "quarrel 0 2 9; quarrel 1 3 9;");
         Due.is("best", x.best(0), 36);
@@ -127,7 +127,7 @@ public final class BoundsOfMenTest {
         posts(x, 0, 0, 2, 1, 3);
     }
 
-    /** 24 to 26: of five MEN of unlike strength and QUARRELS, each row is tried here, and each n asked beside it. */
+    /** 26: "In how many rows of MEN it CARRIES n .. or more": five unlike MEN, each row tried here, each n asked. */
     static void rowsOfUnlikeMen() {
         for (int first = 0; first < 5; first++) {
             rowsOfUnlikeMenFrom(first);
@@ -409,7 +409,7 @@ public final class BoundsOfMenTest {
 
     // ---- Promise 29: ways ----
 
-    /** 29: none, one where nobody is asked for, 24, 3,024, 40,320 and 362,880 rows at most. */
+    /** 29: "In how many rows it is SAFE": 0, 1 (nobody is asked for), 24, 3,024, 40,320, and 362,880 at most. */
     static void waysFromNoneToAll() {
         Due.is("it can't be", one(9, 7, 29).ways(), 0);
         Due.is("three MEN", one(3, 7, 1).ways(), 0);
@@ -474,7 +474,7 @@ public final class BoundsOfMenTest {
         Due.is("no MEN", Due.told(ONE + NET).quarrels(), 0);
     }
 
-    /** 30: also the QUARRELS of who WILL not hold. */
+    /** 30: "QUARRELS as all stand": also of who WILL not hold. */
     static void quarrelsOfWhoWillNot() {
         OppositeNets x = Due.told(ONE + "man 0 strength 5; man 0 strength 5; " + NET
                 + "stands 0 at 0 1; stands 1 at 0 2; quarrel 0 1 4;");
@@ -523,7 +523,7 @@ public final class BoundsOfMenTest {
         Due.is("two there", x.where(1, 1), 2);
     }
 
-    /** 31: of nine WINDOWS each is asked about, to the last one. */
+    /** 31: "The WINDOW": of nine each is asked about, to the last one. */
     static void whereOfNineWindows() {
         String text = "street houses 2 storeys 6; " + "window 0 1; ".repeat(9) + Edge.men(4, 6) + NET + "jumper weight 24 at ";
         for (int w = 0; w < 9; w++) {
@@ -603,7 +603,7 @@ public final class BoundsOfMenTest {
                 + "quarrel 2 3 1; quarrel 3 0 1; jumper weight 68 at 0;"), 2, 10);
     }
 
-    /** 32, 33: none are to be made up: no NEED, or it CARRIES it. */
+    /** 32, 33: "so that it CARRIES its NEED": none are to be made up where there is no NEED, or it CARRIES it. */
     static void peaceWithoutNeed() {
         peace("no JUMPERS", Due.told(ONE + Edge.men(4, 60) + NET + Edge.stand(0, 0) + allQuarrel(4, 9)), 0, 0);
         peace("no JUMPERS, no MEN", Due.told(ONE + NET), 0, 0);
@@ -638,7 +638,7 @@ public final class BoundsOfMenTest {
 
     // ---- Promise 34: harm ----
 
-    /** 34: none by who stands nowhere, or where nothing is carried; 240 at most. */
+    /** 34: "By how much less": 0 by who stands nowhere, or where nothing is carried; 240 at most. */
     static void harmFromNoneToAll() {
         OppositeNets x = Due.told(ONE + Edge.men(5, 60) + NET + Edge.stand(0, 0));
         Due.is("who stands nowhere", x.harm(4), 0);
@@ -748,7 +748,7 @@ public final class BoundsOfMenTest {
 
     // ---- nothing is changed by asking ----
 
-    /** 24 to 31: calls that tell how men were to stand leave them where they are, refused or not. */
+    /** 24 to 31: behind "-2", "-6", "NONE" all stays as it was, and behind answers all stand where they did. */
     static void standingsLeaveAll() {
         OppositeNets x = Edge.busy();
         Edge.stays("best, post, rows, safe, placed, ways, quarrels, where", x, () -> {
@@ -768,7 +768,7 @@ public final class BoundsOfMenTest {
         });
     }
 
-    /** 32 to 36: calls that tell what were, if .., leave all as it is, refused or not. */
+    /** 32 to 36: "if a MAN stood nowhere": he stands as he did behind it; behind "-2", "-1,000" all stays as it was. */
     static void whatIfsLeaveAll() {
         OppositeNets x = Edge.busy();
         x.stand(0, NONE, 0);

@@ -77,7 +77,7 @@ public final class BoundsOfSlotsTest {
         seen(x, 4, 0, 20, 1);
     }
 
-    /** 46: a row of 0 numbers is a row: nothing was seen, so all ways there are; of no NETS the one. */
+    /** 46: "so that all is so": of a row of 0 numbers all ways there are; of no NETS the one. */
     static void seenOfNoNumbers() {
         OppositeNets x = two();
         seen(x, 4);
@@ -100,7 +100,7 @@ public final class BoundsOfSlotsTest {
         }
     }
 
-    /** 46: of 60 numbers, twenty that were seen, the last one counts as the first does. */
+    /** SLOTS: "at most 60", 46: "three numbers each": of twenty that were seen, the last one counts as the first does. */
     static void seenOfSixtyNumbers() {
         OppositeNets x = one();
         x.row(2, 1, 60);
@@ -154,7 +154,7 @@ public final class BoundsOfSlotsTest {
         }
     }
 
-    /** 46: "a number is no NET, FORCE .." behind others that rule all out: -2, not 0. */
+    /** 46: "a number is no NET" behind others that rule all out: -2, not 0. */
     static void seenAllNumbersAreAsked() {
         OppositeNets x = one();
         seen(x, -2, 0, 41, 1, 1, 5, 1);
@@ -388,7 +388,7 @@ public final class BoundsOfSlotsTest {
 
     // ---- Promise 59: count ----
 
-    /** 59: all are 0 of a new object; as many as there may be. */
+    /** 59: "0 HOUSES .. 9 SLOTS that have a row": all are 0 of a new object; as many as there may be. */
     static void countFromNoneToAll() {
         OppositeNets none = new OppositeNets();
         OppositeNets full = Edge.full();
@@ -490,7 +490,7 @@ public final class BoundsOfSlotsTest {
         Due.is("the knot", x.corner(0, 0, 0), 6);
     }
 
-    /** 60: an IMAGE of no STREET keeps that there is none; a STREET that comes later is none of it. */
+    /** 60: "keeps the STREET": of none it keeps that there is none; one that comes later is none of it. */
     static void imageOfNoStreet() {
         OppositeNets x = new OppositeNets();
         Due.is("image(0)", x.image(0), 0);
@@ -592,7 +592,7 @@ public final class BoundsOfSlotsTest {
         Due.is("another knot ahead of the first", x.corner(1, 0, 0), 21);
     }
 
-    /** 60: an IMAGE is kept in place of another of its k; 61: going back leaves the others and itself. */
+    /** 60: "IMAGE k (0 .. 2) keeps the STREET": in place of what it had; 61: going back leaves the others and itself. */
     static void imagesAreApart() {
         OppositeNets x = one();
         for (int k = 0; k < 3; k++) {
@@ -668,7 +668,7 @@ public final class BoundsOfSlotsTest {
         }
     }
 
-    /** 62: "A SLOT (0 .. 3)", "a WIDTH (0 .. 3)", n of 0 .. 60: on the bounds, and "-2" beyond them. */
+    /** 62: "A SLOT (0 .. 3)", "WIDTH (0 .. 3)", "n is above 60": on the bounds, and "-2" beyond them. */
     static void rowBesideTheBounds() {
         OppositeNets x = scale();
         Edge.bounds("row(?, 0, 1)", 0, 3, v -> x.row(v, 0, 1), 0, 0, -2);
@@ -693,7 +693,7 @@ public final class BoundsOfSlotsTest {
         Due.is("and has nothing still", x.write(1, 0, 0), -6);
     }
 
-    /** 62: -2 is told ahead of -3, where n is below 0 and there is no such SLOT or WIDTH. */
+    /** 62: "-2: there is no such SLOT or WIDTH" is told ahead of "-3, .. n is below 0", where both fit. */
     static void rowOfNoneAheadOfBelowZero() {
         OppositeNets x = scale();
         Edge.refused("row(?, 0, -1)", 0, 3, v -> x.row(v, 0, -1), -2);
@@ -701,7 +701,7 @@ public final class BoundsOfSlotsTest {
         Due.is("row(4, 4, least)", x.row(4, 4, LEAST), -2);
     }
 
-    /** 62: where it is refused by -2 the SLOT stays too. */
+    /** 62: where "-2" is told, no such SLOT or WIDTH or n above 60, all stays as it was. */
     static void rowOfNoneLeavesAll() {
         OppositeNets x = scale();
         counted(x, 0, 1, 4);
@@ -735,7 +735,7 @@ public final class BoundsOfSlotsTest {
         numbers("none", x, 0, 2);
     }
 
-    /** 62: each SLOT has its own row. */
+    /** 62: "A SLOT (0 .. 3) has a row": each its own. */
     static void rowsAreApart() {
         OppositeNets x = scale();
         counted(x, 0, 1, 3);
@@ -773,7 +773,7 @@ public final class BoundsOfSlotsTest {
         Due.is("no row by that", x.count(9), 0);
     }
 
-    /** 63: where it is refused all stays as it was. */
+    /** 63: where "-2", "-6", "-7" are told all stays as it was. */
     static void refusedWriteLeavesAll() {
         OppositeNets x = Edge.busy();
         Edge.stays("write of none", x, () -> {
@@ -830,7 +830,7 @@ public final class BoundsOfSlotsTest {
         }
     }
 
-    /** 64: "from one on, are put to another one's, from one on": all 60, one, the last one, and the rest stays. */
+    /** 64: "from one on, are put to another one's (or its own), from one on": all 60, one, the last one, and the rest stays. */
     static void pasteWithinTheRows() {
         OppositeNets x = scale();
         counted(x, 0, 1, 60);
@@ -977,7 +977,7 @@ public final class BoundsOfSlotsTest {
         numbers("nothing happens", x, 0, 1, 4, 8, 12);
     }
 
-    /** 62 to 64: SLOTS are there without a STREET, and stay whatever STREET comes. */
+    /** 1, 62 to 64: "No STREET": SLOTS have rows all the same, and these stay whatever STREET comes. */
     static void slotsWithoutAStreet() {
         OppositeNets x = new OppositeNets();
         counted(x, 0, 1, 3);

@@ -380,7 +380,7 @@ public final class BoundsOfTextTest {
         fault(two + "^net at 1 knots 1 2 3 4 wears 5;", 3);
     }
 
-    /** I: nothing bounds how many stands, quarrel, feud and road LINES there are but the TAPE. */
+    /** I: "{LINE ;}": nothing bounds how many stands, quarrel, feud and road LINES there are but the TAPE. */
     static void linesThatAreNotNumbered() {
         fine(THINGS + "quarrel 0 1 1;".repeat(12));
         fine(THINGS + "feud 0 1;".repeat(12));
@@ -633,7 +633,7 @@ public final class BoundsOfTextTest {
         }
     }
 
-    /** 1: two objects have nothing in common. */
+    /** 1: "No STREET": nor any row or IMAGE, where another object has them. */
     static void objectsAreApart() {
         OppositeNets x = Due.told(Due.STREET);
         x.row(0, 0, 1);

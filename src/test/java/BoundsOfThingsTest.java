@@ -43,7 +43,7 @@ public final class BoundsOfThingsTest {
         }
     }
 
-    /** II: ".. and there is no feud of these two": told either way, and no other feud matters. */
+    /** II: "and there is no feud of these two": told either way, and no other feud matters. */
     static void nobodyWillInAFeud() {
         String head = "street houses 3 storeys 1;window 0 1;man 1 strength 5;";
         Due.is("no feud", Due.told(head).will(0, 0), 1);
@@ -104,7 +104,7 @@ public final class BoundsOfThingsTest {
         Due.is("dry again", x.corner(0, 1, 2), 60);
     }
 
-    /** II: the knot is halved, not what the man has left. */
+    /** II: "half of it": of the knot, not of what the man has left. */
     static void halfOfTheKnotAlone() {
         for (int strength = 14; strength <= 16; strength++) {
             OppositeNets x = Due.told(Edge.four(1, strength, 31, 0));
@@ -474,7 +474,7 @@ public final class BoundsOfThingsTest {
         Due.is("nothing changes", x.corner(0, 2, 0), 99);
     }
 
-    /** 14: a FORCE of 0: it holds, though it CARRIES 0. */
+    /** 14: "NONE: it holds": a FORCE of 0, though it CARRIES 0. */
     static void givesByNoForce() {
         OppositeNets x = holding(9, 8, 7, 10);
         Due.is("gives(0, 0)", x.gives(0, 0), NONE);
@@ -603,7 +603,7 @@ public final class BoundsOfThingsTest {
 
     // ---- nothing is changed by asking ----
 
-    /** 6 to 10: calls that are refused leave all as it was. */
+    /** 6 to 10: behind "-2: there are none such" all stays as it was. */
     static void refusedThingsLeaveAll() {
         OppositeNets x = Edge.busy();
         Edge.stays("window, man, net, corner, jumper of none", x, () -> {
@@ -621,7 +621,7 @@ public final class BoundsOfThingsTest {
         });
     }
 
-    /** 11 to 17: calls that are refused leave all as it was, and so do ones that answer. */
+    /** 11 to 17: behind "-2: there are none such, one twice" all stays as it was, and behind answers too. */
     static void questionsLeaveAll() {
         OppositeNets x = Edge.busy();
         Edge.stays("quarrel, feud, will, gives, held, heaviest, highest", x, () -> {
