@@ -763,6 +763,13 @@ public final class BoundsOfJumpsTest {
         Edge.bounds("years(0, ?, 1)", 1, 20, v -> x.years(0, v, 1), 1, 20, -2);
         Edge.refused("years(?, 20, 1)", 0, 2000000000, v -> x.years(v, 20, 1), -2);
         Edge.refused("years(0, 20, ?)", 1, 60, v -> x.years(0, 20, v), -2);
-        Due.is("no STREET", new OppositeNets().years(0, 1, 1), -2);
+    }
+
+    /** 58: "-2: there are none such": no STREET, whatever is asked. */
+    static void yearsWithoutAStreet() {
+        OppositeNets x = new OppositeNets();
+        Due.is("years(0, 1, 1)", x.years(0, 1, 1), -2);
+        Due.is("years(2000000000, 20, 60)", x.years(2000000000, 20, 60), -2);
+        Due.is("years(-1, 0, 0)", x.years(-1, 0, 0), -2);
     }
 }

@@ -743,7 +743,17 @@ public final class BoundsOfMenTest {
                 .helps(), NONE);
         Due.is("no MEN", Due.told(ONE + NET).helps(), NONE);
         Due.is("no NETS", Due.told(ONE + Edge.men(9, 5)).helps(), NONE);
-        Due.is("no STREET", new OppositeNets().helps(), -2);
+        Due.is("no MEN, no NETS", Due.told(ONE).helps(), NONE);
+    }
+
+    /** 36: "-2: there is no STREET": new, and of no LINES. */
+    static void helpsWithoutAStreet() {
+        OppositeNets x = new OppositeNets();
+        Due.is("new", x.helps(), -2);
+        Due.read(x, ONE);
+        Due.is("a STREET", x.helps(), NONE);
+        x.street();
+        Due.is("no LINES", x.helps(), -2);
     }
 
     // ---- nothing is changed by asking ----

@@ -267,6 +267,21 @@ public final class BoundsOfSlotsTest {
         Due.is("but the first", x.odd(3), 1);
     }
 
+    /** 48: "-2, -6 likewise": no such SLOT, no STREET, a bad number, not three each; a SLOT that has nothing. */
+    static void oddLikewise() {
+        OppositeNets x = one();
+        Due.is("nothing", x.odd(0), -6);
+        Edge.refused("odd(?)", 0, 3, x::odd, -2);
+        for (long[] row : new long[][] {{1, 5, 1}, {-1, 5, 1}, {0, -1, 1}, {0, 5, 2}, {0, 5, -1}, {0, 5}, {0, 5, 1, 0}}) {
+            tell(x, 0, 3, row);
+            Due.is("odd(0) of " + java.util.Arrays.toString(row), x.odd(0), -2);
+        }
+        tell(x, 0, 3, 0, 20, 1);
+        Due.is("odd(0)", x.odd(0), NONE);
+        x.street();
+        Due.is("no STREET", x.odd(0), -2);
+    }
+
     // ---- Promise 53: mend ----
 
     /** 53: "n (0 .. 99)": on the bounds, and "-2" beyond them; "what it was". */
