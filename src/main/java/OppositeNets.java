@@ -1211,12 +1211,16 @@ public final class OppositeNets {
             }
         }
 
+        int holdOfLeft(int net, int corner) {
+            return Math.min(left[net * CORNERS + corner], nets.knotIf(net, corner, nets.wet[net]));
+        }
+
         /** Somebody comes down: the net wears, or a corner gives, which is answered (NONE: held). */
         int fallInto(int net, int force) {
             int weakest = 0;
-            int least = Integer.MAX_VALUE;
-            for (int c = 0; c < CORNERS; c++) {
-                int hold = Math.min(left[net * CORNERS + c], nets.knotIf(net, c, nets.wet[net]));
+            int least = holdOfLeft(net, 0);
+            for (int c = 1; c < CORNERS; c++) {
+                int hold = holdOfLeft(net, c);
                 if (hold < least) {
                     least = hold;
                     weakest = c;

@@ -109,7 +109,8 @@ public final class FaceTest {
         String text = Files.readString(Path.of("src/main/java/OppositeNets.java"), StandardCharsets.ISO_8859_1);
         String code = text.replaceAll("(?s)/\\*.*?\\*/", "").replaceAll("//[^\n]*", "");
         String[] words = {"throw", "try", "catch", "synchronized", "assert", "throws", "package", "protected", "transient",
-            "native", "volatile", "var", "hashCode", "System.out", "Exact", "->", "::", "instanceof Object"};
+            "native", "volatile", "var", "hashCode", "System.out", "Exact", "->", "::", "instanceof Object",
+            "MAX_VALUE", "MIN_VALUE"};
         for (String word : words) {
             boolean sign = !Character.isLetter(word.charAt(0));
             Matcher m = Pattern.compile(sign ? Pattern.quote(word) : "\\b" + Pattern.quote(word) + "\\b").matcher(code);
