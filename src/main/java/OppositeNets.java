@@ -1211,16 +1211,17 @@ public final class OppositeNets {
             }
         }
 
-        int holdOfLeft(int net, int corner) {
+        /** HOLD by what measureLeft() kept of the men, and by the knot as it is now. */
+        int holdAsMeasured(int net, int corner) {
             return Math.min(left[net * CORNERS + corner], nets.knotIf(net, corner, nets.wet[net]));
         }
 
         /** Somebody comes down: the net wears, or a corner gives, which is answered (NONE: held). */
         int fallInto(int net, int force) {
             int weakest = 0;
-            int least = holdOfLeft(net, 0);
+            int least = holdAsMeasured(net, 0);
             for (int c = 1; c < CORNERS; c++) {
-                int hold = holdOfLeft(net, c);
+                int hold = holdAsMeasured(net, c);
                 if (hold < least) {
                     least = hold;
                     weakest = c;
